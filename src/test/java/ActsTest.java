@@ -55,6 +55,9 @@ public final class ActsTest {
         dueAct(x, 7, 0, 5, 4, 71, 10);
         dueAct(x, 7, 1, 5, 8, 11, 71, 10);
         dueAct(x, 7, 2, 5, (8 ^ 0) * 2 ^ 7, 70, 60, 12, 11, 71, 10, 71, 10);
+        dueAct(x, 7, 2, 1, (0 ^ -4) * 2 ^ 7, 70, 60, 12, 11, 71, 10, 71, 10);
+        dueAct(x, 7, 2, 9, (16 ^ 4) * 2 ^ 7, 70, 60, 12, 11, 71, 10, 71, 10);
+        dueAct(x, 7, 2, 6, (10 ^ 1) * 2 ^ 7, 70, 60, 12, 11, 71, 10, 71, 10);
         due("45: far", x.trace(20) + x.trace(Integer.MAX_VALUE) + x.trace(Integer.MIN_VALUE), -3);
     }
 

@@ -59,6 +59,11 @@ public final class MenTest {
         dueMan(x, 2, 1, 2, 3, 4, 0);
         dueMan(x, 3, 6, 7, 1, 3, 0);
         due("10: none", x.men(0, 21, 0), 0);
+        long[][] wrong = {{9, 8, 0, 0, 0}, {0, 9, 8, 0, 0}, {0, 9, -1, 0, 0}, {0, 9, 0, 6, 0}, {0, 9, 0, 3, 401}, {-1, 9, 0, 0, 0}};
+        for (long[] w : wrong) {
+            Desk.list(x, 3, 1, w);
+            due("10: can't be one", x.men(3, 0, 5), 0);
+        }
         due("10: the first can't be", x.men(0, 11, 10), 0);
         due("10: no shelf", x.men(8, -1, -1), -1);
         due("10: no shelf", x.men(-1, 0, 0), -1);

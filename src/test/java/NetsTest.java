@@ -50,6 +50,10 @@ public final class NetsTest {
         dueNet("1 told 2 told 3 told 0;4 told 2 told 5 told 0", 1, bits(2), bits(2));
         dueNet("1 told 0;1 told 0", 1, bits(1), bits(1));
         dueNet("0 told 1 told 23;2 told 1 told 3 told 23", 1, bits(1), bits(1));
+        dueNet("0 told 3", 1, bits(0), bits(0));
+        dueNet("23 told 3", 1, bits(23), bits(23));
+        dueNet("0 told 3;23 told 3", 2, bits(0, 23), 0);
+        dueNet("0 told 22 told 1;0 told 23 told 1", 1, bits(0), bits(0));
     }
 
     private static void rowsOutOfTheNet() {

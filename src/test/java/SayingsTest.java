@@ -89,12 +89,14 @@ public final class SayingsTest {
         Desk.book(x, "1 told 2 told 0;7 told 3 told 0 word 1");
         Desk.book(x, "1 told 0;2 told 0 word 1;3 told 1 word 2;hung 4 told 1 word 2");
         Desk.book(x, "7 told 1;7 told 2 word 1");
+        Desk.book(x, "0 told 1;2 told 1 word 1");
+        due("37: of man 0", x.mouths(5), 1 + 4);
         due("37: mouths", x.mouths(0), 4 + 16 + 32);
         due("37: one wording", x.mouths(1), 0);
         due("37: one that stands", x.mouths(2), 0);
         due("37: of three", x.mouths(3), 4);
         due("37: none stands", x.mouths(4), 0);
-        due("37: no saying", x.mouths(5), -1);
+        due("37: no saying", x.mouths(6), -1);
         due("37: no saying", x.mouths(-1), -1);
         due("37: counted", x.status(11), 2);
     }
@@ -221,6 +223,7 @@ public final class SayingsTest {
         due("41: between", x.between(0, 2), 10);
         due("41: between", x.between(2, 0), 10);
         due("41: between", x.between(0, 1), 8);
+        due("41: between", x.between(1, 3), 1 + 4);
         Desk.rules(x, "near 0");
         x.force(0);
         due("41: all others", x.between(0, 2), 26);
@@ -261,9 +264,11 @@ public final class SayingsTest {
         due("43: the other way", x.beside(0, -1), 6);
         due("43: near", x.beside(0, 1), 12);
         due("43: both", x.beside(-1, 1), 10);
+        x.mark(1, 0, 0);
+        due("43: the first saying, too", x.beside(-1, 0), 7);
         due("43: the same", x.beside(-1, -1) + x.beside(1, 1), 0);
         x.force(1);
-        due("43: whatever is in force", x.beside(-1, 0), 6);
+        due("43: whatever is in force", x.beside(-1, 0), 7);
         due("43: no rules", x.beside(2, 0), -1);
         due("43: no rules", x.beside(-1, 2), -1);
         due("43: no rules", x.beside(-2, 0), -1);

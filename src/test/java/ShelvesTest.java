@@ -34,6 +34,8 @@ public final class ShelvesTest {
         due("1: trace", x.trace(0), -1);
         due("1: force", x.force(-1), -1);
         due("1: restore", x.restore(), -6);
+        Desk.book(Desk.withMen(2), "0 told 1");
+        due("1: another object is another", x.status(0) + x.status(2) + x.holds(7), -1);
     }
 
     private static void row() {
@@ -51,8 +53,10 @@ public final class ShelvesTest {
         due("2: too many", x.row(0, 1, Integer.MAX_VALUE), -7);
         due("2: nothing changed", x.holds(0), 100);
         due("2: counted", x.status(11) * 1000 + x.status(14) * 100 + x.status(16) * 10 + x.status(17), 2122);
+        x.set(0, 0, 76);
         x.set(0, 5, 77);
         x.row(0, 2, 6);
+        due("2: a new row is 0", x.element(0, 0), 0);
         due("2: a new row is 0", x.element(0, 5), 0);
         due("2: and has its own size", x.set(0, 6, 1), -5);
         x = Desk.withMen(2);
@@ -179,19 +183,20 @@ public final class ShelvesTest {
         Desk.book(x, "0 told 1 heard 2 word 5;whole 3 told 1 told 2 word 6");
         Desk.book(x, "gap 1 told 2;hidden 2 told 1 from 3 heard 0");
         Desk.book(x, "hung 1 told 3;raised 3 told 0");
-        Desk.book(x, "made 2 heard 3");
+        Desk.book(x, "made 2 heard 3;gap 1 heard 2 heard 3");
         int[][] due = {
             {3, -2, -2, -2, -2, -2, -2}, {3, 6, -2, -2, -2, -2, -2}, {2, -2, -1, -2, -2, -2, -2},
-            {4, -2, 2, 2, -2, -2, -2}, {2, -2, -2, -2, 3, -2, -2}, {2, -2, -2, -2, -2, 3, -2}, {2, -2, -2, -2, -2, 2, 2}
+            {4, -2, 2, 2, -2, -2, -2}, {2, -2, -2, -2, 3, -2, -2}, {2, -2, -2, -2, -2, 3, -2}, {2, -2, -2, -2, -2, 2, 2},
+            {3, -2, 0, -2, -2, -2, -2}
         };
-        for (int r = 0; r < 7; r++) {
+        for (int r = 0; r < 8; r++) {
             x.show(0, r / 2, r % 2);
             for (int kind = 0; kind < 7; kind++) {
                 due("8: row " + r + " says as " + kind, x.says(0, kind), due[r][kind]);
             }
         }
         int others = x.status(12);
-        due("8: others counted", others, 34);
+        due("8: others counted", others, 39);
         x.row(1, 0, 1);
         due("8: no shelf", x.says(8, 0), -1);
         due("8: no kind", x.says(1, 7), -1);
