@@ -117,6 +117,10 @@ public final class BooksTest {
         due("22: no saying", x.rowOf(-1, 0, 0), -5);
         due("22: counted", x.status(15), 11);
         Desk.book(x, "0 told 1 from 2 heard 3 told 4 from 5 heard 6 from 7");
+        Desk.book(x, "0 told 1;0 told 1;0 told 1;0 told 1;0 told 1;0 told 1;0 told 1;0 told 1");
+        Desk.book(x, "0 told 1");
+        due("22: the eighth row", x.rowOf(3, 7, 0), 0);
+        due("22: no ninth row", x.rowOf(3, 8, 0), -5);
         due("22: the last man", x.rowOf(2, 0, 17), 7);
         due("22: the last link", x.rowOf(2, 0, 26), 1);
         due("22: beyond", x.rowOf(2, 0, 18), -5);

@@ -6,6 +6,7 @@ public final class HearingTest {
         could();
         whenByAge();
         whenByPlace();
+        whenByManyMoves();
         fails();
         strength();
         stands();
@@ -93,6 +94,23 @@ public final class HearingTest {
         due("24: in his last year", x.when(0, 1), 100);
         x.found(0, 0, 99);
         due("24: he died before", x.when(0, 1), -1);
+    }
+
+    /** Each of them is back before the other one comes; only in 45 one comes home to where the other is. */
+    private static void whenByManyMoves() {
+        HadItFrom x = new HadItFrom();
+        x.man(0, 100, 0, 1, 0);
+        x.man(0, 100, 1, 1, 0);
+        x.journey(0, 2, 20, 24);
+        x.journey(0, 3, 30, 34);
+        x.journey(0, 4, 40, 44);
+        x.journey(1, 5, 22, 26);
+        x.journey(1, 6, 32, 36);
+        x.journey(1, 0, 42, 46);
+        due("24: after many moves", x.when(0, 1), 45);
+        due("24: after many moves", x.when(1, 0), 45);
+        x.found(1, 0, 44);
+        due("24: not before", x.when(1, 0), -1);
     }
 
     /** Men 0, 1 (sure) and 3 (hides) live together; 2 (sure) and 4 (hides) much later. */
