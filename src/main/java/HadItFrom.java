@@ -175,7 +175,7 @@ public final class HadItFrom {
         if (held[s] >= NUMBERS) {
             return refuse(OTHER);
         }
-        Row shown = held[s] == NONE ? null : now.rowAt(held[s] / 10, held[s] % 10);
+        Row shown = holdsMen(s) ? now.rowAt(held[s] / 10, held[s] % 10) : null;
         if (shown == null) {
             return refuse(NOTHING);
         }
@@ -667,7 +667,7 @@ public final class HadItFrom {
         }
         now.becomes(kept);
         for (int s = 0; s < SHELVES; s++) {
-            if (held[s] != NONE && held[s] < NUMBERS && now.rowAt(held[s] / 10, held[s] % 10) == null) {
+            if (holdsMen(s) && now.rowAt(held[s] / 10, held[s] % 10) == null) {
                 held[s] = NONE;
             }
         }
