@@ -10,7 +10,6 @@ public final class HadItFrom {
     private static final int SHELVES = 8;
     private static final int ELEMENTS = 100;
     private static final int LAST_SORT = 3;
-    private static final int LONGS = 3;
     /** What holds() adds to the sort: above each 10 times a saying and its row. */
     private static final int NUMBERS = 100;
 

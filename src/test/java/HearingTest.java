@@ -124,8 +124,8 @@ public final class HearingTest {
         return x;
     }
 
-    private static void dueFails(HadItFrom x, String letters, int want) {
-        x.restore();
+    private static void dueFails(String letters, int want) {
+        HadItFrom x = twoTimes();
         int saying = Desk.book(x, letters);
         due("25: fails of " + letters, x.fails(saying, 0), want);
         if (want != -1) {
@@ -134,28 +134,28 @@ public final class HearingTest {
     }
 
     private static void fails() {
-        HadItFrom x = twoTimes();
-        x.image();
         String[] kinds = {"", "hung ", "raised ", "made "};
         for (String kind : kinds) {
-            dueFails(x, kind + "0 told 1 from 3", -1);
-            dueFails(x, kind + "0 told 1 told 2", 1);
-            dueFails(x, kind + "2 heard 0 heard 4", 0);
-            dueFails(x, kind + "3 from 4", 0);
+            dueFails(kind + "0 told 1 from 3", -1);
+            dueFails(kind + "0 told 1 told 2", 1);
+            dueFails(kind + "2 heard 0 heard 4", 0);
+            dueFails(kind + "3 from 4", 0);
         }
-        dueFails(x, "whole 0 told 1 told 3", -1);
-        dueFails(x, "whole 0 told 1 from 3", 1);
-        dueFails(x, "whole 0 heard 1 told 3", 0);
-        dueFails(x, "whole 0 told 1 told 4", 1);
-        dueFails(x, "gap 0 told 1 heard 2 told 4", -1);
-        dueFails(x, "gap 0 told 1 from 2", 1);
-        dueFails(x, "gap 3 from 2", 0);
-        dueFails(x, "gap 0 heard 2 told 1", 1);
-        dueFails(x, "hidden 0 heard 2", -1);
-        dueFails(x, "hidden 3 from 2 from 4", -1);
-        dueFails(x, "hidden 3 told 2", 0);
-        dueFails(x, "hidden 0 from 4", 0);
-        dueFails(x, "hidden 3 from 2 from 0", 1);
+        dueFails("whole 0 told 1 told 3", -1);
+        dueFails("whole 0 told 1 from 3", 1);
+        dueFails("whole 0 heard 1 told 3", 0);
+        dueFails("whole 0 told 1 told 4", 1);
+        dueFails("gap 0 told 1 heard 2 told 4", -1);
+        dueFails("gap 0 told 1 from 2", 1);
+        dueFails("gap 3 from 2", 0);
+        dueFails("gap 0 heard 2 told 1", 1);
+        dueFails("hidden 0 heard 2", -1);
+        dueFails("hidden 3 from 2 from 4", -1);
+        dueFails("hidden 3 told 2", 0);
+        dueFails("hidden 0 from 4", 0);
+        dueFails("hidden 3 from 2 from 0", 1);
+        HadItFrom x = twoTimes();
+        Desk.book(x, "hidden 3 from 2 from 0");
         due("25: no row", x.fails(0, 1), -11);
         due("25: no row", x.fails(0, -1), -11);
         due("25: no saying", x.fails(1, 0), -11);
@@ -163,60 +163,65 @@ public final class HearingTest {
         due("25: counted", x.status(11), 4);
     }
 
-    private static void dueStrength(HadItFrom x, String letters, int want) {
-        x.restore();
+    private static HadItFrom ofAllMarks() {
+        HadItFrom x = new HadItFrom();
+        for (int mark = 0; mark < 6; mark++) {
+            x.man(0, 100, 0, mark, 0);
+        }
+        x.man(0, 100, 0, 1, 0);
+        return x;
+    }
+
+    private static void dueStrength(String rules, String letters, int want) {
+        HadItFrom x = ofAllMarks();
+        x.force(Desk.rules(x, rules));
         int saying = Desk.book(x, letters);
         due("26: strength of " + letters, x.strength(saying, 0), want);
         due("27: stands " + letters, x.stands(saying, 0), want >= 3 ? 1 : 0);
     }
 
     private static void strength() {
-        HadItFrom x = new HadItFrom();
-        for (int mark = 0; mark < 6; mark++) {
-            x.man(0, 100, 0, mark, 0);
-        }
-        x.man(0, 100, 0, 1, 0);
-        x.image();
-        dueStrength(x, "1 told 6", 9);
-        dueStrength(x, "1 told 0", 3);
-        dueStrength(x, "2 told 1", 5);
-        dueStrength(x, "1 told 3", 2);
-        dueStrength(x, "1 told 4", 0);
-        dueStrength(x, "1 told 5 told 6", 6);
-        dueStrength(x, "1 told 2 told 5", 5);
-        dueStrength(x, "1 heard 6", 7);
-        dueStrength(x, "1 heard 2", 3);
-        dueStrength(x, "1 heard 2 heard 6", 1);
-        dueStrength(x, "1 heard 2 heard 6 heard 5", 0);
-        dueStrength(x, "5 from 1", 5);
-        dueStrength(x, "1 from 5", 6);
-        dueStrength(x, "5 from 1 heard 6", 3);
-        dueStrength(x, "gap 1 told 6", 6);
-        dueStrength(x, "gap 1 heard 6", 4);
-        dueStrength(x, "gap 1 told 3", 0);
-        dueStrength(x, "hidden 1 told 6", 6);
-        dueStrength(x, "hidden 5 from 6", 2);
-        dueStrength(x, "whole 1 told 6", 9);
-        dueStrength(x, "hung 1 heard 6", 7);
-        dueStrength(x, "raised 1 told 6", 7);
-        dueStrength(x, "raised 1 told 0", 1);
-        dueStrength(x, "raised 1 told 4", 0);
-        dueStrength(x, "made 1 told 6", 3);
-        dueStrength(x, "made 5 told 6", 2);
-        dueStrength(x, "made 1 told 4", 0);
+        String asAtFirst = "bar 3";
+        dueStrength(asAtFirst, "1 told 6", 9);
+        dueStrength(asAtFirst, "1 told 0", 3);
+        dueStrength(asAtFirst, "2 told 1", 5);
+        dueStrength(asAtFirst, "1 told 3", 2);
+        dueStrength(asAtFirst, "1 told 4", 0);
+        dueStrength(asAtFirst, "1 told 5 told 6", 6);
+        dueStrength(asAtFirst, "1 told 2 told 5", 5);
+        dueStrength(asAtFirst, "1 heard 6", 7);
+        dueStrength(asAtFirst, "1 heard 2", 3);
+        dueStrength(asAtFirst, "1 heard 2 heard 6", 1);
+        dueStrength(asAtFirst, "1 heard 2 heard 6 heard 5", 0);
+        dueStrength(asAtFirst, "5 from 1", 5);
+        dueStrength(asAtFirst, "1 from 5", 6);
+        dueStrength(asAtFirst, "5 from 1 heard 6", 3);
+        dueStrength(asAtFirst, "gap 1 told 6", 6);
+        dueStrength(asAtFirst, "gap 1 heard 6", 4);
+        dueStrength(asAtFirst, "gap 1 told 3", 0);
+        dueStrength(asAtFirst, "hidden 1 told 6", 6);
+        dueStrength(asAtFirst, "hidden 5 from 6", 2);
+        dueStrength(asAtFirst, "whole 1 told 6", 9);
+        dueStrength(asAtFirst, "hung 1 heard 6", 7);
+        dueStrength(asAtFirst, "raised 1 told 6", 7);
+        dueStrength(asAtFirst, "raised 1 told 0", 1);
+        dueStrength(asAtFirst, "raised 1 told 4", 0);
+        dueStrength(asAtFirst, "made 1 told 6", 3);
+        dueStrength(asAtFirst, "made 5 told 6", 2);
+        dueStrength(asAtFirst, "made 1 told 4", 0);
+        HadItFrom x = ofAllMarks();
+        Desk.book(x, "made 1 told 4");
         due("26: no row", x.strength(0, 1), -1);
         due("26: no saying", x.strength(1, 0), -1);
         due("26: no saying", x.strength(-1, 0), -1);
         due("26: counted", x.status(11), 3);
-        Desk.rules(x, "sure 4;from 9;heard 0;gap 1;raise 0;hides 8");
-        x.force(0);
-        x.image();
-        dueStrength(x, "1 heard 6", 4);
-        dueStrength(x, "5 from 1", 0);
-        dueStrength(x, "1 from 5", 4);
-        dueStrength(x, "gap 1 heard 6", 3);
-        dueStrength(x, "raised 1 heard 6", 4);
-        dueStrength(x, "made 1 heard 6", 2);
+        String others = "sure 4;from 9;heard 0;gap 1;raise 0;hides 8";
+        dueStrength(others, "1 heard 6", 4);
+        dueStrength(others, "5 from 1", 0);
+        dueStrength(others, "1 from 5", 4);
+        dueStrength(others, "gap 1 heard 6", 3);
+        dueStrength(others, "raised 1 heard 6", 4);
+        dueStrength(others, "made 1 heard 6", 2);
     }
 
     private static void stands() {

@@ -6,6 +6,10 @@ public final class ImageTest {
         image();
         restore();
         restoreKeepsTheRest();
+        restoreOfEach();
+        restoreOfMarks();
+        restoreOfShelves();
+        restoreOfForce();
         status();
         checks.end();
     }
@@ -107,6 +111,111 @@ public final class ImageTest {
         x.image();
         due("47: again", x.restore(), 2);
         due("47: holds", x.holds(5), 10);
+    }
+
+    /** Each man and each pair of sayings, the first ones and the last ones. */
+    private static void restoreOfEach() {
+        HadItFrom x = Stages.full();
+        for (int s = 0; s < 7; s++) {
+            x.clash(s, s + 1, true);
+        }
+        due("46: image", x.image(), 8);
+        for (int man = 0; man < 24; man++) {
+            x.found(man, man + 1, man + 2);
+            x.mark(man, 2, 0);
+            x.journey(man, 7, 50, 50);
+        }
+        for (int s = 0; s < 7; s++) {
+            x.clash(s, s + 1, false);
+        }
+        due("48: no clashes", x.status(4), 0);
+        due("47: restore", x.restore(), 8);
+        for (int man = 0; man < 24; man++) {
+            due("47: born " + man, x.manOf(man, 0), 0);
+            due("47: died " + man, x.manOf(man, 1), 100);
+            due("47: mark " + man, x.manOf(man, 3), 1);
+            due("47: journeys " + man, x.manOf(man, 4), man == 23 ? 3 : 0);
+            due("47: where " + man, x.where(man, 50), man == 23 ? 2 : 0);
+        }
+        due("47: clashes", x.status(4), 7);
+        for (int s = 0; s < 7; s++) {
+            due("47: they clash", x.clash(s, s + 1, true), 0);
+            due("47: rows", x.rows(s + 1), 8);
+        }
+    }
+
+    private static void restoreOfMarks() {
+        HadItFrom x = new HadItFrom();
+        x.man(0, 100, 0, 1, 0);
+        x.man(0, 100, 0, 3, 11);
+        x.journey(0, 4, 70, 75);
+        Desk.book(x, "0 told 1");
+        x.image();
+        x.mark(1, 3, 10);
+        x.journey(0, 5, 71, 73);
+        x.journey(0, 6, 72, 74);
+        due("28: late", x.sureness(0, 0, 1), 2);
+        due("15: elsewhere", x.where(0, 73), 6);
+        x.restore();
+        due("47: not yet late", x.sureness(0, 0, 1), 9);
+        due("47: where", x.where(0, 73), 4);
+        due("11: the second journey anew", x.journey(0, 7, 75, 75), 2);
+        due("15: on it", x.where(0, 75), 7);
+        due("15: not on the one that was", x.where(0, 71), 4);
+        x.restore();
+        due("47: its first journey alone", x.where(0, 75), 4);
+    }
+
+    private static void restoreOfForce() {
+        HadItFrom x = Desk.withMen(2);
+        Desk.book(x, "0 told 1");
+        x.image();
+        x.force(Desk.rules(x, "sure 4"));
+        due("26: by rules in force", x.strength(0, 0), 4);
+        due("47: restore", x.restore(), 1);
+        due("26: by those at first", x.strength(0, 0), 9);
+        due("19: none are in force", x.force(-1), -1);
+        due("18: none are there", x.rule(0, 3), -5);
+        Desk.rules(x, "sure 5");
+        Desk.rules(x, "sure 6");
+        x.force(0);
+        x.image();
+        x.force(1);
+        due("47: restore", x.restore(), 1);
+        due("26: by those that were", x.strength(0, 0), 5);
+        due("19: 0 are in force", x.force(-1), 0);
+        due("47: restore", x.restore(), 1);
+        due("19: 0 again", x.force(1), 0);
+    }
+
+    private static void restoreOfShelves() {
+        HadItFrom x = Desk.withMen(2);
+        Desk.write(x, 0, 0, "0 told 1;".repeat(8).substring(0, 71));
+        for (int n = 0; n < 7; n++) {
+            x.book(0);
+        }
+        x.image();
+        due("20: the eighth", x.book(0), 7);
+        for (int s = 0; s < 8; s++) {
+            x.show(s, 7, s);
+        }
+        due("47: restore", x.restore(), 7);
+        for (int s = 0; s < 8; s++) {
+            due("47: shelf " + s + " with what is no more", x.holds(s), -1);
+        }
+        for (int s = 0; s < 7; s++) {
+            x.show(s, s, 7);
+            x.show(7, 6, 0);
+            x.restore();
+            due("47: shelf " + s + " with what still is", x.holds(s), 10 * s + 7);
+            due("47: the last shelf", x.holds(7), 60);
+        }
+        Desk.write(x, 7, 0, "0 told 1");
+        due("20: the eighth", x.book(7), 7);
+        x.image();
+        x.show(0, 7, 0);
+        due("47: restore", x.restore(), 8);
+        due("47: the eighth still is", x.holds(0), 70);
     }
 
     private static void status() {

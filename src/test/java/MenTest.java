@@ -5,6 +5,8 @@ public final class MenTest {
     public static void main(String[] args) {
         man();
         men();
+        menOfSome();
+        menUntil();
         journey();
         found();
         mark();
@@ -91,6 +93,32 @@ public final class MenTest {
         Desk.list(x, 0, 3, 1L << 32, (1L << 40) + 8, 7, 3, (5L << 32) + 400);
         due("10: longs as ints", x.men(0, 0, 5), 1);
         dueMan(x, 0, 0, 8, 7, 3, 0);
+    }
+
+    /** Five men could be made of the elements; so many are as the call says, from where it says. */
+    private static void menOfSome() {
+        for (int n = 0; n <= 5; n++) {
+            for (int i = 0; i + n <= 5; i++) {
+                HadItFrom x = new HadItFrom();
+                Desk.list(x, 0, 1, 1, 9, 0, 0, 0, 2, 9, 0, 0, 0, 3, 9, 0, 0, 0, 4, 9, 0, 0, 0, 5, 9, 0, 0, 0);
+                due("10: " + n + " from " + i, x.men(0, 5 * i, 5 * n), n);
+                due("10: men", x.status(0), n);
+                due("10: the first of them", x.manOf(0, 0), n > 0 ? i + 1 : -5);
+                due("10: the last of them", x.manOf(n - 1, 0), n > 0 ? i + n : -5);
+            }
+        }
+    }
+
+    /** The first, the second .. of four elements' men can't be one. */
+    private static void menUntil() {
+        for (int wrong = 0; wrong < 4; wrong++) {
+            HadItFrom x = new HadItFrom();
+            Desk.list(x, 0, 2, 1, 9, 0, 0, 0, 2, 9, 0, 0, 0, 3, 9, 0, 0, 0, 4, 9, 0, 0, 0);
+            x.set(0, 5 * wrong + 2, 8);
+            due("10: until " + wrong, x.men(0, 0, 20), wrong);
+            due("10: men", x.status(0), wrong);
+            due("10: no refusal", x.status(16), 0);
+        }
     }
 
     private static void journey() {

@@ -7,6 +7,7 @@ public final class NetsTest {
         rowsOutOfTheNet();
         refused();
         alone();
+        oneAfterAnother();
         checks.end();
     }
 
@@ -18,6 +19,20 @@ public final class NetsTest {
         HadItFrom x = Desk.withMen(24);
         Desk.book(x, letters);
         dueNet(x, letters, apart, cut, knots);
+        dueNetOfNew(letters, apart, cut, knots);
+    }
+
+    /** Each of them on an object of its own, too: none may lean on what another one laid out. */
+    private static void dueNetOfNew(String letters, int apart, int cut, int knots) {
+        HadItFrom x = Desk.withMen(24);
+        Desk.book(x, letters);
+        due("31: cut alone of " + letters, x.cut(0), cut);
+        x = Desk.withMen(24);
+        Desk.book(x, letters);
+        due("32: knots alone of " + letters, x.knots(0), knots);
+        x = Desk.withMen(24);
+        Desk.book(x, letters);
+        due("30: apart alone of " + letters, x.apart(0), apart);
     }
 
     private static void dueNet(HadItFrom x, String letters, int apart, int cut, int knots) {
@@ -103,5 +118,26 @@ public final class NetsTest {
         due("33: not alone", x.alone(3), 0);
         x.mark(5, 4, 0);
         due("33: now he is", x.alone(4), 4);
+    }
+
+    /** What a man had of whom in one saying is nothing to the next one. */
+    private static void oneAfterAnother() {
+        for (int man = 0; man < 24; man++) {
+            int a = (man + 1) % 24;
+            int b = (man + 2) % 24;
+            int first = (man + 3) % 24;
+            HadItFrom x = Desk.withMen(24);
+            Desk.book(x, man + " told " + a + " told " + first);
+            Desk.book(x, man + " told " + b + " told " + a + " told " + first);
+            Desk.book(x, "hung " + man + " told " + a);
+            due("32: knots", x.knots(0), bits(man, a));
+            due("32: knots of another", x.knots(1), bits(man, a, b));
+            due("30: apart of none", x.apart(2), 0);
+            due("32: knots of none", x.knots(2), 0);
+            due("30: apart", x.apart(1), 1);
+            due("33: alone", x.alone(b), 2);
+            due("33: alone", x.alone(a), 3);
+            due("33: alone, the first", x.alone(first), 0);
+        }
     }
 }

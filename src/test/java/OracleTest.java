@@ -58,7 +58,7 @@ public final class OracleTest {
 
     private void due(String call, long got, long want) {
         calls++;
-        if (calls > CALLS || wrong) {
+        if (wrong) {
             return;
         }
         told.append(call).append(" -> ").append(got).append('\n');
@@ -67,6 +67,11 @@ public final class OracleTest {
             wrong = true;
             System.out.println(told);
         }
+    }
+
+    /** Whether an object may be asked so many times more. */
+    private boolean hasRoom(int more) {
+        return calls + more <= CALLS;
     }
 
     private void call() {
@@ -159,6 +164,9 @@ public final class OracleTest {
     private void menCall() {
         int s = aShelf();
         int size = below(16);
+        if (!hasRoom(size + 2)) {
+            return;
+        }
         due("row " + s + " 1 " + size, x.row(s, 1, size), o.row(s, 1, size));
         for (int i = 0; i < size; i++) {
             int v = i % 5 == 1 ? 20 + below(30) : below(i % 5 == 0 ? 21 : 7);
@@ -257,6 +265,9 @@ public final class OracleTest {
 
     private void write(String text) {
         String letters = text.length() > 100 ? text.substring(0, 100) : text;
+        if (!hasRoom(letters.length() + 3)) {
+            return;
+        }
         int s = below(8);
         int sort = below(4);
         due("row " + s + " " + sort + " " + letters.length(), x.row(s, sort, letters.length()), o.row(s, sort, letters.length()));
@@ -328,6 +339,9 @@ public final class OracleTest {
                 int arg = below(2) == 0 ? below(50) - 25 : (int) seed;
                 due("act " + s + " " + r + " " + act + " " + arg, x.act(s, r, act, arg), o.act(s, r, act, arg));
                 int i = near(8);
+                if (!hasRoom(1)) {
+                    break;
+                }
                 due("trace " + i, x.trace(i), o.trace(i));
                 break;
         }

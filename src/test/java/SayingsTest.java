@@ -7,6 +7,8 @@ public final class SayingsTest {
         weight();
         wordings();
         mouths();
+        mouthsOfEachWording();
+        weightOfEachRow();
         clash();
         doubt();
         doubtOfMany();
@@ -67,6 +69,34 @@ public final class SayingsTest {
         due("35: two", x.weight(1), 53);
         x.force(2);
         due("35: one that stands with nothing", x.weight(2), 0);
+    }
+
+    /** The one row that is strong (or stands at all) is row 0, row 1 .. of eight. */
+    private static void weightOfEachRow() {
+        for (int strong = 0; strong < 8; strong++) {
+            StringBuilder book = new StringBuilder();
+            for (int row = 0; row < 8; row++) {
+                book.append(row == 0 ? "" : ";").append(row == strong ? "1 told 0" : "1 heard 0");
+            }
+            HadItFrom x = Desk.withMen(2);
+            Desk.book(x, book.toString());
+            due("35: row " + strong + " is strong", x.weight(0), 9);
+            x.force(Desk.rules(x, "bar 8;sure 8"));
+            due("35: row " + strong + " stands", x.weight(0), 8);
+            due("36: row " + strong + " stands", x.wordings(0), 1);
+            due("43: row " + strong + " stands", x.beside(0, Desk.rules(x, "bar 9;sure 8")), 1);
+        }
+    }
+
+    private static void mouthsOfEachWording() {
+        for (int a = 0; a < 8; a++) {
+            for (int b = 0; b < 8; b++) {
+                HadItFrom x = Desk.withMen(4);
+                Desk.book(x, "1 told 0 word " + a + ";2 told 0 word " + b + ";1 told 3 told 0 word " + a);
+                due("37: wordings " + a + " and " + b, x.mouths(0), a == b ? 0 : 2 + 4);
+                due("36: wordings " + a + " and " + b, x.wordings(0), 1 << a | 1 << b);
+            }
+        }
     }
 
     private static void wordings() {

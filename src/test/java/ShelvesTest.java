@@ -11,6 +11,7 @@ public final class ShelvesTest {
         show();
         holds();
         says();
+        saysOfAllRows();
         checks.end();
     }
 
@@ -166,8 +167,9 @@ public final class ShelvesTest {
 
     private static void holds() {
         HadItFrom x = Desk.withMen(2);
+        Desk.write(x, 0, 0, "0 told 1;0 told 1;0 told 1;0 told 1;0 told 1;0 told 1;0 told 1;0 told 1");
         for (int n = 0; n < 8; n++) {
-            Desk.book(x, "0 told 1;0 told 1;0 told 1;0 told 1;0 told 1;0 told 1;0 told 1;0 told 1");
+            x.book(0);
         }
         x.show(3, 7, 7);
         due("7: the last row", x.holds(3), 77);
@@ -203,5 +205,22 @@ public final class ShelvesTest {
         due("8: no kind", x.says(2, -1), -1);
         due("8: numbers", x.says(1, 0), -2);
         due("8: nothing", x.says(2, 0), -3);
+    }
+
+    /** Eight sayings of eight rows, of which row r of saying s has 2 + (s + r) % 2 men. */
+    private static void saysOfAllRows() {
+        HadItFrom x = Desk.withMen(3);
+        Desk.write(x, 0, 0, "0 told 1;0 told 1 told 2;".repeat(4).substring(0, 99));
+        Desk.write(x, 1, 0, "0 told 1 told 2;0 told 1;".repeat(4).substring(0, 99));
+        for (int s = 0; s < 8; s++) {
+            due("20: book", x.book(s % 2), s);
+        }
+        for (int s = 0; s < 8; s++) {
+            for (int r = 0; r < 8; r++) {
+                due("6: show", x.show(2, s, r), 1);
+                due("7: row " + r + " of saying " + s, x.holds(2), 10 * s + r);
+                due("8: row " + r + " of saying " + s, x.says(2, 0), 2 + (s + r) % 2);
+            }
+        }
     }
 }
